@@ -464,18 +464,6 @@ public final class TestSlots {
         int paid = 0;
         int fee = 0;
 
-        void comeOn(int day) {
-            status = IDLE;
-            failed = 0;
-            testableFrom = day;
-            latestRoute = NONE;
-            latestExaminer = NONE;
-            moved = 0;
-            began = 0;
-            paid = 0;
-            fee = 0;
-        }
-
         void copyFrom(Pupil other) {
             status = other.status;
             failed = other.failed;
@@ -497,12 +485,6 @@ public final class TestSlots {
         final int[] testsOnRoute = new int[ROUTES];
         int passed = 0;
         int cancelled = 0;
-
-        void comeOn() {
-            Arrays.fill(testsOnRoute, 0);
-            passed = 0;
-            cancelled = 0;
-        }
 
         void copyFrom(Examiner other) {
             System.arraycopy(other.testsOnRoute, 0, testsOnRoute, 0, testsOnRoute.length);
@@ -539,6 +521,7 @@ public final class TestSlots {
         final int[] settings = new int[FIRST_SETTINGS.length];
         /** A cell tells its pupil, FREE or CLOSED; those of examiners to come are CLOSED. */
         final int[] diary = new int[DAYS * CELLS_OF_A_DAY];
+        /** Those who have not come yet are as new in every office, saved ones too. */
         final Pupil[] pupils = new Pupil[MOST_PUPILS];
         final Examiner[] examiners = new Examiner[MOST_EXAMINERS];
         /** Only filled and read while slots are given out. */
@@ -584,7 +567,6 @@ public final class TestSlots {
         int takeOnExaminer() {
             int number = examinerCount;
             examinerCount++;
-            examiners[number].comeOn();
             for (int days = 0; days < DAYS; days++) {
                 freeSlotsOf(number, days);
             }
@@ -595,7 +577,7 @@ public final class TestSlots {
         int takeOnPupil() {
             int number = pupilCount;
             pupilCount++;
-            pupils[number].comeOn(day);
+            pupils[number].testableFrom = day;
             return number;
         }
 

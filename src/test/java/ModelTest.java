@@ -3,6 +3,8 @@ public final class ModelTest {
     private static final int RUNS = 400;
     private static final int CALLS = 512;
     private static final Due due = new Due();
+    /** Asking, quitting, cancelling, undoing, looking. */
+    private static final int[] CROWD_KINDS = {3, 4, 5, 6, 7, 7, 7, 8, 8, 15, 16, 16, 22};
     private static long seed = 1;
 
     private interface Call {
@@ -40,9 +42,13 @@ public final class ModelTest {
         TestSlots x = new TestSlots();
         Model m = new Model();
         int calm = below(3);
-        for (int i = 0; i < CALLS; i++) {
+        int first = run % 3 == 0 ? crowd(run + ".crowd ", x, m) : 0;
+        for (int i = first; i < CALLS; i++) {
             String call = run + "." + i + " ";
             int kind = below(calm == 0 ? 30 : 24);
+            if (first > 0 && below(3) > 0) {
+                kind = CROWD_KINDS[below(CROWD_KINDS.length)];
+            }
             if (kind < 17) {
                 change(call, x, m, kind);
             } else if (kind < 21) {
@@ -56,6 +62,29 @@ public final class ModelTest {
         }
     }
 
+    /** Many pupils who can have slots of the latest days alone; answers how many calls it took. */
+    private static int crowd(String call, TestSlots x, Model m) {
+        int examiners = 1 + below(3);
+        int wait = 8 + below(2);
+        same(call + "set", () -> x.set(0, wait), () -> m.set(0, wait));
+        same(call + "set", () -> x.set(1, 0), () -> m.set(1, 0));
+        for (int i = 0; i < examiners; i++) {
+            same(call + "addExaminer", () -> x.addExaminer(), () -> m.addExaminer());
+        }
+        for (int i = 0; i < 12; i++) {
+            int pupil = i;
+            same(call + "addPupil", () -> x.addPupil(), () -> m.addPupil());
+            same(call + "ask", () -> x.ask(pupil), () -> m.ask(pupil));
+        }
+        for (int i = 0; i < 12; i++) {
+            int pupil = i;
+            same(call + "test", () -> x.test(pupil, false), () -> m.test(pupil, false));
+            same(call + "ask", () -> x.ask(pupil), () -> m.ask(pupil));
+        }
+        same(call + "cancel", () -> x.cancel(0, 9), () -> m.cancel(0, 9));
+        return 60;
+    }
+
     private static int nearly(int bound) {
         return below(40) == 0 ? (below(2) == 0 ? -1 : bound + below(3)) : below(Math.max(1, bound));
     }
@@ -63,7 +92,7 @@ public final class ModelTest {
     private static void change(String call, TestSlots x, Model m, int kind) {
         int pupil = nearly(m.now.pupils.size());
         int examiner = nearly(m.now.examiners);
-        int days = below(2) == 0 ? below(3) : nearly(10);
+        int days = below(3) == 0 ? below(3) : below(3) == 0 ? 8 + below(2) : nearly(10);
         switch (kind) {
             case 0:
                 same(call + "addExaminer", () -> x.addExaminer(), () -> m.addExaminer());
@@ -168,7 +197,7 @@ public final class ModelTest {
     private static void look(String call, TestSlots x, Model m, int kind) {
         int pupil = nearly(m.now.pupils.size());
         int examiner = nearly(m.now.examiners);
-        int days = nearly(10);
+        int days = below(2) == 0 ? 8 + below(2) : nearly(10);
         int what = nearly(kind == 0 ? 11 : kind == 1 ? 9 : kind == 2 ? 15 : 3);
         switch (kind) {
             case 0:

@@ -29,6 +29,7 @@ public final class PromiseTest {
         run();
         runStops();
         undo();
+        undoHidden();
         pupil();
         examiner();
         slot();
@@ -530,6 +531,11 @@ public final class PromiseTest {
         for (String orders : fine) {
             firstErrorOf(orders, orders.length());
         }
+        TestSlots x = office(1, 2);
+        write(x, "ask11");
+        write(x, "ask1");
+        due.is("12 what stood in the buffer before does not count", x.firstError(), 4);
+        due.is("12 nor is it carried out", x.run() + x.pupil(1, 0), 1 + 2);
         firstErrorOf("b", 0);
         firstErrorOf(";", 0);
         firstErrorOf("0", 0);
@@ -564,7 +570,7 @@ public final class PromiseTest {
 
     private static void run() {
         TestSlots x = office(2, 3);
-        for (String orders : new String[] {"", "ask", "ask0;", "x", "ask0;ask", "ill0", "ill0@", "next;next1", ";",
+        for (String orders : new String[] {"", "ask", "nex", "ask0;nex", "ask0;", "x", "ask0;ask", "ill0", "ill0@", "next;next1", ";",
             "next;next;next;next;next;next;next;next;next;next;next;next;"}) {
             write(x, orders);
             due.refuses(x, "13 " + orders, ARGUMENT, () -> x.run());
@@ -607,6 +613,12 @@ public final class PromiseTest {
             due.is("13 stops at once at " + stop, runText(x, stop), 0);
             due.is("13 clears the buffer", x.clearBuffer(), 0);
         }
+        TestSlots z = office(0, 12);
+        due.is("13 waiting is no stop", runText(z, "ask10;ask11;quit10;next"), 4);
+        due.is("13 two digits", z.pupil(10, 0) * 10 + z.pupil(11, 0), 1);
+        z.addExaminer();
+        due.is("13 two digits tested", runText(z, "fail11"), 1);
+        due.is("13 who was tested", z.pupil(11, 1), 1);
         TestSlots y = new TestSlots();
         due.is("13 none carried out", runText(y, "ask0;next"), 0);
         due.is("13 undoable also then", y.count(14), 1);
@@ -641,6 +653,34 @@ public final class PromiseTest {
             due.is("14 undo of call " + i, y.undo(), Math.min(5, saved));
             due.is("14 restored behind call " + i, seen(y), before);
         }
+    }
+
+    /** What the looks don't tell at once: the fee that was paid, and who began to wait earlier. */
+    private static void undoHidden() {
+        TestSlots x = office(0, 3);
+        x.ask(0);
+        x.ask(1);
+        x.quit(0);
+        x.set(3, 70);
+        x.ask(0);
+        due.is("14 waits behind", x.pupil(0, 9), 1);
+        x.undo();
+        x.undo();
+        x.undo();
+        due.is("14 waits ahead again", x.pupil(0, 9), 0);
+        x.ask(2);
+        due.is("14 who asks now waits behind", x.pupil(2, 9), 2);
+        due.is("14 the fee that was paid then", x.quit(0), 50);
+
+        TestSlots y = crowdedLastDay();
+        long before = seen(y);
+        y.ifCancelled(0, 9, 0);
+        y.quit(6);
+        y.ask(6);
+        due.is("14 began anew", y.pupil(6, 9), 1);
+        y.undo();
+        y.undo();
+        due.is("14 as before", seen(y), before);
     }
 
     private static void undoableCall(TestSlots x, int i) {
@@ -787,6 +827,7 @@ public final class PromiseTest {
         }
         due.is("18 free slots", x.count(12), 80 - 8 - 2 - 2);
         due.is("18 days to the slots", x.count(13), 4 * 7 + 4 * 8);
+        due.is("18 free slots of four examiners", office(4, 0).count(12), 160);
         due.refuses(x, "18 what 15", ARGUMENT, () -> x.count(15));
         due.refuses(x, "18 what -1", ARGUMENT, () -> x.count(-1));
     }
@@ -871,6 +912,14 @@ public final class PromiseTest {
         y.quit(4);
         ifCancelledIs(y, 0, 9, 2, 1, 1000);
 
+        // 6 asked anew, so 7 waits ahead of it; the one that is moved comes ahead of both
+        y.ask(4);
+        y.ask(7);
+        y.ask(6);
+        ifCancelledIs(y, 0, 9, 2, 2, 1000);
+        y.cancel(0, 9);
+        y.quit(2);
+        due.is("21 the moved one got the slot", y.pupil(0, 6), 2);
         due.refuses(y, "21 days 10", ARGUMENT, () -> y.ifCancelled(0, 10, 0));
         due.refuses(y, "21 days -1", ARGUMENT, () -> y.ifCancelled(0, -1, 0));
         due.refuses(y, "21 what 3", ARGUMENT, () -> y.ifCancelled(0, 0, 3));
@@ -953,6 +1002,26 @@ public final class PromiseTest {
         x.quit(10);
         due.is("23 all who look for a slot", x.couldHave(3), 7);
 
+        TestSlots z = office(4, 3);
+        due.is("23 with four examiners, no more than pupils", z.couldHave(4), 3);
+        z.ask(0);
+        due.is("23 with four examiners, one has a slot", z.couldHave(4), 2);
+        z.test(0, false);
+        due.is("23 with four examiners, one may not come yet", z.couldHave(2), 2);
+
+        for (int i = 0; i < 4; i++) {
+            z.cancel(i, 0);
+        }
+        for (int i = 3; i < 12; i++) {
+            z.addPupil();
+            z.ask(i - 2);
+        }
+        due.is("23 with four examiners, some have slots", z.couldHave(0), 0);
+        z.quit(1);
+        z.quit(4);
+        z.quit(7);
+        due.is("23 with four examiners, no more than slots", z.couldHave(0), 3);
+
         TestSlots y = crowdedLastDay();
         y.quit(0);
         due.is("23 waiting ones count", y.couldHave(9), 0);
@@ -998,6 +1067,18 @@ public final class PromiseTest {
         digestIs(x, "fail~!");
         TestSlots y = office(2, 0);
         digestIs(y, "");
+        TestSlots z = office(4, 12);
+        digestIs(z, "");
+        for (int i = 0; i < 12; i++) {
+            z.ask(i);
+            z.test(i, i % 4 == 1);
+            digestIs(z, "");
+        }
+        z.set(0, 0);
+        z.next();
+        digestIs(z, "");
+        write(z, "next;next;next;next;next;next;next;next;next;next;next;next!");
+        digestIs(z, "next;next;next;next;next;next;next;next;next;next;next;next!");
     }
 
     private static void digestIs(TestSlots x, String buffer) {
