@@ -2,6 +2,16 @@
 final class Due {
     private int answers = 0;
     private int wrong = 0;
+    private String about = "";
+
+    /** What the answers from now on are about; told ahead of the first wrong one. */
+    void about(String what) {
+        about = what;
+    }
+
+    int answers() {
+        return answers;
+    }
 
     void is(String call, long got, long want) {
         answers++;
@@ -39,9 +49,14 @@ final class Due {
 
     void tell(String what) {
         wrong++;
-        if (wrong <= 50) {
-            System.out.println(what);
+        if (wrong > 50) {
+            return;
         }
+        if (!about.isEmpty()) {
+            System.out.println(about);
+            about = "";
+        }
+        System.out.println("  " + what);
     }
 
     void end() {

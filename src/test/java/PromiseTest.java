@@ -1,12 +1,5 @@
 /** Each promise by hand: ordinary inputs, the edges that the document names, and wrong inputs. */
-public final class PromiseTest {
-    private static final Class<?> BOUNDS = IndexOutOfBoundsException.class;
-    private static final Class<?> STATE = IllegalStateException.class;
-    private static final Class<?> ARGUMENT = IllegalArgumentException.class;
-    private static final int NONE = TestSlots.NONE;
-    private static final int CLOSED = -2;
-    private static final Due due = new Due();
-
+public final class PromiseTest extends Offices {
     public static void main(String[] args) {
         newObject();
         addExaminer();
@@ -43,43 +36,6 @@ public final class PromiseTest {
         passedShare();
         digest();
         due.end();
-    }
-
-    private static TestSlots office(int examiners, int pupils) {
-        TestSlots x = new TestSlots();
-        for (int i = 0; i < examiners; i++) {
-            x.addExaminer();
-        }
-        for (int i = 0; i < pupils; i++) {
-            x.addPupil();
-        }
-        return x;
-    }
-
-    private static void write(TestSlots x, String orders) {
-        x.clearBuffer();
-        for (char c : orders.toCharArray()) {
-            x.append(c);
-        }
-    }
-
-    private static int runText(TestSlots x, String orders) {
-        write(x, orders);
-        return x.run();
-    }
-
-    private static void goOn(TestSlots x, int days) {
-        for (int i = 0; i < days; i++) {
-            x.next();
-        }
-    }
-
-    /** Where the pupil's slot is, as days, slot and examiner in one number. */
-    private static int place(TestSlots x, int pupil) {
-        if (x.pupil(pupil, 5) == NONE) {
-            return NONE;
-        }
-        return 100 * x.pupil(pupil, 5) + 10 * x.pupil(pupil, 6) + x.pupil(pupil, 7);
     }
 
     private static void newObject() {
@@ -244,24 +200,6 @@ public final class PromiseTest {
         due.is("5 gets none", y.pupil(0, 0), 0);
         due.is("5 asks anew", y.ask(0), 0);
         due.is("5 pays anew", y.pupil(0, 10), 7);
-    }
-
-    /** Eight failed today and can have slots of the last day alone, which has six: 6 and 7 wait. */
-    private static TestSlots crowdedLastDay() {
-        TestSlots x = office(2, 8);
-        x.set(0, 9);
-        x.set(1, 0);
-        x.cancel(1, 9);
-        for (int i = 0; i < 8; i++) {
-            x.ask(i);
-        }
-        for (int i = 0; i < 8; i++) {
-            x.test(i, false);
-        }
-        for (int i = 0; i < 8; i++) {
-            x.ask(i);
-        }
-        return x;
     }
 
     private static void quitGivesOut() {
@@ -683,56 +621,6 @@ public final class PromiseTest {
         due.is("14 as before", seen(y), before);
     }
 
-    private static void undoableCall(TestSlots x, int i) {
-        switch (i) {
-            case 0: x.addExaminer(); break;
-            case 4: x.addExaminer(); break;
-            case 5: x.ask(0); break;
-            case 6: x.ask(1); break;
-            case 7: x.test(0, false); break;
-            case 8: x.test(1, true); break;
-            case 9: x.ask(0); break;
-            case 10: x.ask(2); break;
-            case 11: x.cancel(0, 0); break;
-            case 12: x.cancel(0, 3); break;
-            case 13: x.set(1, 0); break;
-            case 14: x.quit(2); break;
-            case 15: x.set(3, 999); break;
-            case 16: x.ask(2); break;
-            case 17: runText(x, "ill1@3;next;ask3;next"); break;
-            case 18: x.next(); break;
-            case 19: x.set(2, 2); break;
-            default: x.addPupil(); break;
-        }
-    }
-
-    /** The state as the looks tell it, without the saved states and the buffer. */
-    private static long seen(TestSlots x) {
-        long hash = 0;
-        for (int what = 0; what <= 13; what++) {
-            hash = 31 * hash + x.count(what);
-        }
-        for (int i = 0; i < 4; i++) {
-            hash = 31 * hash + x.setting(i);
-        }
-        for (int pupil = 0; pupil < x.count(2); pupil++) {
-            for (int what = 0; what <= 10; what++) {
-                hash = 31 * hash + x.pupil(pupil, what);
-            }
-        }
-        for (int examiner = 0; examiner < x.count(1); examiner++) {
-            for (int what = 0; what <= 8; what++) {
-                hash = 31 * hash + x.examiner(examiner, what);
-            }
-            for (int days = 0; days < 10; days++) {
-                for (int slot = 0; slot < 4; slot++) {
-                    hash = 31 * hash + x.slot(examiner, days, slot);
-                }
-            }
-        }
-        return hash;
-    }
-
     private static void pupil() {
         TestSlots x = office(2, 3);
         x.ask(2);
@@ -1082,43 +970,7 @@ public final class PromiseTest {
     }
 
     private static void digestIs(TestSlots x, String buffer) {
-        long hash = 2731;
-        for (int what = 0; what <= 14; what++) {
-            hash = 31 * hash + x.count(what);
-        }
-        for (int setting = 0; setting < 4; setting++) {
-            hash = 31 * hash + x.setting(setting);
-        }
-        for (int pupil = 0; pupil < x.count(2); pupil++) {
-            for (int what = 0; what <= 10; what++) {
-                hash = 31 * hash + x.pupil(pupil, what);
-            }
-            for (int what = 0; what <= 2; what++) {
-                hash = 31 * hash + x.earliest(pupil, what);
-            }
-        }
-        for (int examiner = 0; examiner < x.count(1); examiner++) {
-            for (int what = 0; what <= 8; what++) {
-                hash = 31 * hash + x.examiner(examiner, what);
-            }
-            for (int i = 0; i < 40; i++) {
-                hash = 31 * hash + x.slot(examiner, i / 4, i % 4);
-            }
-            for (int i = 0; i < 6; i++) {
-                hash = 31 * hash + x.ifCancelled(examiner, i / 3, i % 3);
-            }
-            if (x.count(2) > 0) {
-                hash = 31 * hash + x.ifTested(0, examiner);
-            }
-        }
-        hash = 31 * hash + x.couldHave(0);
-        hash = 31 * hash + x.couldHave(1);
-        hash = 31 * hash + x.couldHave(5);
-        hash = 31 * hash + Double.doubleToLongBits(x.passedShare());
-        hash = 31 * hash + buffer.length();
-        for (char c : buffer.toCharArray()) {
-            hash = 31 * hash + c;
-        }
+        long hash = digestOf(x, buffer);
         due.is("25 digest", x.digest(), hash);
         due.is("25 digest again", x.digest(), hash);
     }
